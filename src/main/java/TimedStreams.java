@@ -444,8 +444,10 @@ public final class TimedStreams {
                 reachSubscription(id, what, value);
             } else if (phase[user] != RUNNING) {
                 continue;
+            } else if (what == ITEM && stageKind[partStage[user]] >= MERGE) {
+                hearJoinedItem(user, p, value);
             } else if (what == ITEM) {
-                hearItem(user, p, value);
+                hearItem(user, value);
             } else if (what == COMPLETE) {
                 hearComplete(user, p);
             } else {
@@ -486,7 +488,7 @@ public final class TimedStreams {
         push(BEGIN, partX[p], 0);
     }
 
-    private void hearItem(int p, int from, int v) {
+    private void hearItem(int p, int v) {
         int b = stageB[partStage[p]];
         switch (stageKind[partStage[p]]) {
             case ADD:
@@ -534,16 +536,25 @@ public final class TimedStreams {
                 due[p] = time + b;
                 push(ITEM, p, v);
                 break;
+            default:
+                push(ITEM, p, v);
+                break;
+        }
+    }
+
+    private void hearJoinedItem(int p, int from, int v) {
+        boolean fromX = from == partX[p];
+        switch (stageKind[partStage[p]]) {
             case ZIP:
-                if (partnerWaits(p, from)) {
+                if (queueSize[p] > 0 && queueIsOfX[p] != fromX) {
                     pairItem(p, from, v);
                 } else {
-                    queueIsOfX[p] = from == partX[p];
+                    queueIsOfX[p] = fromX;
                     queueItem(p, v, NO_TIME);
                 }
                 break;
             case LATEST:
-                latestItem(p, from, v);
+                latestItem(p, fromX, v);
                 break;
             default:
                 push(ITEM, p, v);
@@ -604,11 +615,6 @@ public final class TimedStreams {
         }
     }
 
-    private boolean partnerWaits(int p, int from) {
-        boolean fromX = from == partX[p];
-        return queueSize[p] > 0 && queueIsOfX[p] != fromX;
-    }
-
     private void pairItem(int p, int from, int v) {
         int partner = queueValue[p * ROOM];
         int other = otherSide(p, from);
@@ -619,8 +625,8 @@ public final class TimedStreams {
         push(ITEM, p, from == partX[p] ? 31 * v + partner : 31 * partner + v);
     }
 
-    private void latestItem(int p, int from, int v) {
-        if (from == partX[p]) {
+    private void latestItem(int p, boolean fromX, int v) {
+        if (fromX) {
             held[p] = v;
             hasHeld[p] = true;
         } else {
