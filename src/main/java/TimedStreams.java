@@ -537,7 +537,6 @@ public final class TimedStreams {
                 push(ITEM, p, v);
                 break;
             default:
-                push(ITEM, p, v);
                 break;
         }
     }
