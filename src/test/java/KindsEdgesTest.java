@@ -397,6 +397,12 @@ public final class KindsEdgesTest {
         due.items("eight wait in the outer one, four of them until 5", x, "ACTIVE");
         x.advance(1);
         due.items("a timer of a part before it is before its own", x, "FAILED 8");
+        x = Made.with(11, 0, 2, 11, 3, 2);
+        Made.emitUpTo(x, 0, 8);
+        x.advance(3);
+        due.items("eight wait in a second DELAY", x, "ACTIVE");
+        x.advance(1);
+        due.items("eight waited in one after the other", x, "ACTIVE 4:1 4:2 4:3 4:4 4:5 4:6 4:7 4:8");
         x = Made.with(11, 0, 2, 20, 3, 2);
         x.advance(1);
         Made.emitUpTo(x, 0, 9);

@@ -197,35 +197,37 @@ public final class PromiseEdgesTest {
         due.sentence("whatever it was before (an ACTIVE one is given up for it)");
         for (int kind = 3; kind <= 20; kind++) {
             int b = kind == 9 ? 2 : kind == 13 ? 30 : 1;
-            TimedStreams used = Made.stages(kind, 0, b);
-            used.subscribe(0, 3);
-            used.request(0, 9);
-            Made.emit(used, 0, 5, 6);
-            Made.emit(used, 1, 5);
-            used.advance(1);
-            Made.emit(used, 0, 6, 5, 5);
-            TimedStreams unused = Made.stages(kind, 0, b);
-            unused.advance(1);
-            due.same("a part of kind " + kind + " is as if it were new", playOn(used, kind), playOn(unused, kind));
+            for (int s = 0; s < 2; s++) {
+                TimedStreams used = Made.stages(kind, 0, b);
+                used.subscribe(0, 3);
+                used.request(0, 9);
+                Made.emit(used, 0, 5, 6);
+                Made.emit(used, 1, 5);
+                used.advance(1);
+                Made.emit(used, 0, 6, 5, 5);
+                TimedStreams unused = Made.stages(kind, 0, b);
+                unused.advance(1);
+                due.same("a part of kind " + kind + " is as if it were new", playOn(used, s), playOn(unused, s));
+            }
         }
     }
 
-    /** What 0 tells of stage 3 after each of some calls, if it subscribes to it now. */
-    private static String playOn(TimedStreams x, int kind) {
+    /** What 0 tells of stage 3 after each of some calls, the first of them to source s, if it subscribes to it now. */
+    private static String playOn(TimedStreams x, int s) {
         x.subscribe(0, 3);
         x.request(0, ENDLESS);
         x.advance(1);
         StringBuilder all = new StringBuilder(Tell.items(x, 0));
         for (int i = 0; i < 3; i++) {
-            x.emit(1 - kind % 2, i);
+            x.emit(s, i);
             all.append(", ").append(Tell.items(x, 0));
-            x.emit(kind % 2, i);
+            x.emit(1 - s, i);
             all.append(", ").append(Tell.items(x, 0));
             x.advance(i);
         }
-        x.complete(kind % 2);
+        x.complete(s);
         all.append(", ").append(Tell.items(x, 0));
-        x.complete(1 - kind % 2);
+        x.complete(1 - s);
         x.advance(1);
         return all.append(", ").append(Tell.items(x, 0)).toString();
     }

@@ -45,15 +45,11 @@ public final class PromisesTest {
         return x;
     }
 
-    private static void told(String where, TimedStreams x, int id, String want) {
-        due.same(where, Tell.told(x, id), want);
-    }
-
     private static void promise1NewObject() {
         TimedStreams x = new TimedStreams();
         due.same("1: subscribe without stages", x.subscribe(0, 0), BAD);
         for (int id = 0; id < 3; id++) {
-            told("1: subscription " + id, x, id, "NONE");
+            due.told("1: subscription " + id, x, id, "NONE");
             due.same("1: delivered", x.delivered(id), 0);
             due.same("1: item", x.item(id, 0), -1);
             due.same("1: pending", x.pending(id), 0);
@@ -132,11 +128,11 @@ public final class PromisesTest {
         for (int stage : new int[] {-1, 4, Integer.MIN_VALUE, Integer.MAX_VALUE}) {
             due.same("3: stage " + stage, x.subscribe(0, stage), BAD);
         }
-        told("3: BAD changes nothing", x, 0, "NONE");
+        due.told("3: BAD changes nothing", x, 0, "NONE");
         due.same("3: one part", x.subscribe(0, 0), 1);
-        told("3: new", x, 0, "ACTIVE +0/0");
+        due.told("3: new", x, 0, "ACTIVE +0/0");
         due.same("3: JUST", x.subscribe(1, 3), 1);
-        told("3: an item at the beginning waits", x, 1, "ACTIVE +1/0");
+        due.told("3: an item at the beginning waits", x, 1, "ACTIVE +1/0");
         due.same("3: stage 4", x.stage(3, 0, 1), 4);
         due.same("3: two parts", x.subscribe(2, 4), 2);
         due.same("3: stage 5", x.stage(16, 4, 4), 5);
@@ -148,7 +144,7 @@ public final class PromisesTest {
         due.same("3: stage 8", x.stage(8, 7, 0), 8);
         x.emit(0, 1);
         due.same("3: ten are too many", x.subscribe(2, 8), FULL);
-        told("3: FULL changes nothing", x, 2, "ACTIVE +2/0");
+        due.told("3: FULL changes nothing", x, 2, "ACTIVE +2/0");
         due.same("3: stages 9, 10, 11", x.stage(16, 8, 8) + x.stage(16, 9, 9) + x.stage(16, 10, 10), 9 + 10 + 11);
         due.same("3: far too many", x.subscribe(2, 11), FULL);
     }
@@ -159,24 +155,24 @@ public final class PromisesTest {
         x.request(0, 3);
         x.emit(0, 5);
         due.same("3: BAD stage keeps the old one", x.subscribe(0, 9), BAD);
-        told("3: kept", x, 0, "ACTIVE 0:5 +0/2");
+        due.told("3: kept", x, 0, "ACTIVE 0:5 +0/2");
         due.same("3: again", x.subscribe(0, 1), 1);
-        told("3: nothing is left", x, 0, "ACTIVE +0/0");
+        due.told("3: nothing is left", x, 0, "ACTIVE +0/0");
         due.same("3: the old one is given up", x.open(0), 0);
         x.emit(0, 6);
         x.emit(1, 8);
-        told("3: hears the new stage alone", x, 0, "ACTIVE +1/0");
+        due.told("3: hears the new stage alone", x, 0, "ACTIVE +1/0");
         x.request(0, 0);
-        told("3: failed", x, 0, "FAILED 6");
+        due.told("3: failed", x, 0, "FAILED 6");
         x.subscribe(0, 0);
-        told("3: active again", x, 0, "ACTIVE +0/0");
+        due.told("3: active again", x, 0, "ACTIVE +0/0");
         x.stage(12, 0, 5);
         x.subscribe(0, 4);
         x.emit(0, 1);
         x.subscribe(0, 4);
         x.request(0, 9);
         x.advance(20);
-        told("3: what a part held is gone", x, 0, "ACTIVE +0/9");
+        due.told("3: what a part held is gone", x, 0, "ACTIVE +0/9");
     }
 
     private static void promise4Request() {
@@ -184,17 +180,17 @@ public final class PromisesTest {
         x.subscribe(0, 0);
         due.same("4: request", x.request(0, 2), true);
         due.same("4: request adds", x.request(0, 1), true);
-        told("4: demand", x, 0, "ACTIVE +0/3");
+        due.told("4: demand", x, 0, "ACTIVE +0/3");
         for (int v = 1; v <= 5; v++) {
             x.emit(0, v);
         }
-        told("4: each delivery takes one", x, 0, "ACTIVE 0:1 0:2 0:3 +2/0");
+        due.told("4: each delivery takes one", x, 0, "ACTIVE 0:1 0:2 0:3 +2/0");
         x.advance(4);
         due.same("4: request delivers", x.request(0, 1), true);
-        told("4: the oldest first, with the time of delivery", x, 0, "ACTIVE 0:1 0:2 0:3 4:4 +1/0");
+        due.told("4: the oldest first, with the time of delivery", x, 0, "ACTIVE 0:1 0:2 0:3 4:4 +1/0");
         x.emit(0, 6);
         due.same("4: request more than waits", x.request(0, 5), true);
-        told("4: what is over stays", x, 0, "ACTIVE 0:1 0:2 0:3 4:4 4:5 4:6 +0/3");
+        due.told("4: what is over stays", x, 0, "ACTIVE 0:1 0:2 0:3 4:4 4:5 4:6 +0/3");
         for (int id : new int[] {-1, 1, 3, Integer.MIN_VALUE, Integer.MAX_VALUE}) {
             due.same("4: no such subscription " + id, x.request(id, 1), false);
         }
@@ -207,11 +203,11 @@ public final class PromisesTest {
             x.emit(0, 1);
             x.emit(0, 2);
             due.same("4: below 1", x.request(0, n), true);
-            told("4: FAILED with 6, what waits is gone", x, 0, "FAILED 6");
+            due.told("4: FAILED with 6, what waits is gone", x, 0, "FAILED 6");
             due.same("4: pending", x.pending(0), 0);
             due.same("4: not ACTIVE", x.request(0, 1), false);
             due.same("4: not ACTIVE, below 1", x.request(0, 0), false);
-            told("4: stays", x, 0, "FAILED 6");
+            due.told("4: stays", x, 0, "FAILED 6");
         }
         TimedStreams x = fresh();
         x.subscribe(0, 0);
@@ -219,7 +215,7 @@ public final class PromisesTest {
         x.emit(0, 1);
         x.request(0, MOST);
         x.emit(0, 2);
-        told("4: the greatest demand does not go down", x, 0, "ACTIVE 0:1 0:2 +0/15");
+        due.told("4: the greatest demand does not go down", x, 0, "ACTIVE 0:1 0:2 +0/15");
         for (int i = 0; i < 18; i++) {
             x.emit(0, i);
         }
@@ -235,7 +231,7 @@ public final class PromisesTest {
         TimedStreams y = fresh();
         y.subscribe(0, 3);
         y.request(0, 0);
-        told("4: an end that waits is gone too", y, 0, "FAILED 6");
+        due.told("4: an end that waits is gone too", y, 0, "FAILED 6");
     }
 
     private static void promise4RequestCalls() {
@@ -275,12 +271,12 @@ public final class PromisesTest {
         due.same("5: twice", x.cancel(0), false);
         due.same("5: request", x.request(0, 1), false);
         x.emit(0, 3);
-        told("5: nothing comes any more", x, 0, "CANCELLED 0:1");
-        told("5: another goes on", x, 1, "ACTIVE +3/0");
+        due.told("5: nothing comes any more", x, 0, "CANCELLED 0:1");
+        due.told("5: another goes on", x, 1, "ACTIVE +3/0");
         x.complete(0);
-        told("5: nor an end", x, 0, "CANCELLED 0:1");
+        due.told("5: nor an end", x, 0, "CANCELLED 0:1");
         due.same("5: an end that waits", x.cancel(1), true);
-        told("5: cancelled before it", x, 1, "CANCELLED");
+        due.told("5: cancelled before it", x, 1, "CANCELLED");
         x.subscribe(2, 3);
         x.request(2, 1);
         due.same("5: DONE", x.cancel(2), false);
@@ -300,8 +296,8 @@ public final class PromisesTest {
         due.same("6: emit", x.emit(0, Integer.MAX_VALUE), true);
         due.same("6: emit", x.emit(1, -1), true);
         due.same("6: nobody listens", x.emit(2, 4), true);
-        told("6: its own source", x, 0, "ACTIVE 0:-2147483648 0:2147483647 +0/7");
-        told("6: its own source", x, 1, "ACTIVE 0:-1 +0/8");
+        due.told("6: its own source", x, 0, "ACTIVE 0:-2147483648 0:2147483647 +0/7");
+        due.told("6: its own source", x, 1, "ACTIVE 0:-1 +0/8");
         x.complete(0);
         due.same("6: it has ended", x.emit(0, 1), false);
         due.same("6: another has not", x.emit(1, 1), true);
@@ -310,7 +306,7 @@ public final class PromisesTest {
         x.subscribe(0, 0);
         x.request(0, 9);
         due.same("6: ended for all", x.emit(0, 1), false);
-        told("6: nothing came", x, 0, "ACTIVE +0/9");
+        due.told("6: nothing came", x, 0, "ACTIVE +0/9");
     }
 
     private static void promise6EmitCalls() {
@@ -346,22 +342,22 @@ public final class PromisesTest {
         x.emit(0, 4);
         x.request(1, 1);
         due.same("7: complete", x.complete(0), true);
-        told("7: an item waits", x, 0, "ACTIVE +1/0");
-        told("7: none waits", x, 1, "DONE 0:4");
-        told("7: another source", x, 2, "ACTIVE +0/0");
+        due.told("7: an item waits", x, 0, "ACTIVE +1/0");
+        due.told("7: none waits", x, 1, "DONE 0:4");
+        due.told("7: another source", x, 2, "ACTIVE +0/0");
         x.request(0, 1);
-        told("7: as soon as none waits", x, 0, "DONE 0:4");
+        due.told("7: as soon as none waits", x, 0, "DONE 0:4");
         due.same("7: twice", x.complete(0), false);
         due.same("7: fail behind it", x.fail(0, 1), false);
         x.subscribe(0, 0);
         x.request(0, 1);
-        told("7: a later part hears nothing of it", x, 0, "ACTIVE +0/1");
+        due.told("7: a later part hears nothing of it", x, 0, "ACTIVE +0/1");
         due.same("7: and is open", x.open(0), 1);
         x.stage(19, 0, 0);
         x.restart();
         x.subscribe(0, 4);
         x.complete(0);
-        told("7: a part that begins in this call hears nothing of it", x, 0, "ACTIVE +0/0");
+        due.told("7: a part that begins in this call hears nothing of it", x, 0, "ACTIVE +0/0");
         due.same("7: and is open", x.open(0), 1);
     }
 
@@ -374,19 +370,19 @@ public final class PromisesTest {
         for (int code : new int[] {0, 6, -1, Integer.MIN_VALUE, Integer.MAX_VALUE}) {
             due.same("8: code " + code, x.fail(0, code), false);
         }
-        told("8: nothing changes", x, 0, "ACTIVE +0/0");
+        due.told("8: nothing changes", x, 0, "ACTIVE +0/0");
         due.same("8: not ended", x.emit(0, 4), true);
         due.same("8: fail", x.fail(0, 5), true);
-        told("8: an item waits", x, 0, "ACTIVE +1/0");
+        due.told("8: an item waits", x, 0, "ACTIVE +1/0");
         due.same("8: no code yet", x.code(0), 0);
         x.request(0, 1);
-        told("8: as soon as none waits", x, 0, "FAILED 5 0:4");
+        due.told("8: as soon as none waits", x, 0, "FAILED 5 0:4");
         due.same("8: twice", x.fail(0, 5), false);
         due.same("8: complete behind it", x.complete(0), false);
         x.restart();
         x.subscribe(0, 0);
         due.same("8: least code", x.fail(0, 1), true);
-        told("8: at once", x, 0, "FAILED 1");
+        due.told("8: at once", x, 0, "FAILED 1");
     }
 
     private static void promise9Advance() {
@@ -399,15 +395,15 @@ public final class PromisesTest {
         x.subscribe(0, 2);
         x.request(0, 99);
         due.same("9: by d", x.advance(4), 4);
-        told("9: not yet", x, 0, "ACTIVE +0/15");
+        due.told("9: not yet", x, 0, "ACTIVE +0/15");
         due.same("9: by d", x.advance(1), 5);
-        told("9: at the time", x, 0, "ACTIVE 5:0 +0/15");
+        due.told("9: at the time", x, 0, "ACTIVE 5:0 +0/15");
         due.same("9: by 0", x.advance(0), 5);
         due.same("9: over several", x.advance(11), 16);
-        told("9: each at its time", x, 0, "ACTIVE 5:0 10:1 15:2 +0/15");
+        due.told("9: each at its time", x, 0, "ACTIVE 5:0 10:1 15:2 +0/15");
         due.same("9: would be 201", x.advance(185), BAD);
         due.same("9: would wrap", x.advance(Integer.MAX_VALUE), BAD);
-        told("9: nothing changes", x, 0, "ACTIVE 5:0 10:1 15:2 +0/15");
+        due.told("9: nothing changes", x, 0, "ACTIVE 5:0 10:1 15:2 +0/15");
         due.same("9: to 200", x.advance(184), 200);
         due.same("9: all of them", x.delivered(0), 40);
         due.same("9: the last", x.item(0, 0), (200L << 32) + 39);
@@ -425,8 +421,8 @@ public final class PromisesTest {
         x.request(0, 9);
         x.request(1, 9);
         x.advance(10);
-        told("9: by the number of the part", x, 0, "ACTIVE 5:0 5:100 10:1 10:101 +0/5");
-        told("9: by the number of the part", x, 1, "ACTIVE 5:100 5:0 10:101 10:1 +0/5");
+        due.told("9: by the number of the part", x, 0, "ACTIVE 5:0 5:100 10:1 10:101 +0/5");
+        due.told("9: by the number of the part", x, 1, "ACTIVE 5:100 5:0 10:101 10:1 +0/5");
         TimedStreams y = fresh();
         y.stage(11, 0, 5);
         y.stage(12, 4, 5);
@@ -436,9 +432,9 @@ public final class PromisesTest {
         y.advance(5);
         y.emit(0, 2);
         y.advance(5);
-        told("9: the part before at one time goes first", y, 0, "ACTIVE +0/9");
+        due.told("9: the part before at one time goes first", y, 0, "ACTIVE +0/9");
         y.advance(5);
-        told("9: and then alone", y, 0, "ACTIVE 15:2 +0/8");
+        due.told("9: and then alone", y, 0, "ACTIVE 15:2 +0/8");
         TimedStreams z = fresh();
         z.stage(14, 0, 5);
         z.subscribe(0, 4);
@@ -446,7 +442,7 @@ public final class PromisesTest {
         z.advance(5);
         z.emit(0, 1);
         z.advance(5);
-        told("9: timers come before calls of the same time", z, 0, "ACTIVE 10:1 +0/8");
+        due.told("9: timers come before calls of the same time", z, 0, "ACTIVE 10:1 +0/8");
     }
 
     private static void promise10Status() {
@@ -650,7 +646,7 @@ public final class PromisesTest {
         x.advance(2);
         x.restart();
         for (int id = 0; id < 3; id++) {
-            told("16: no subscriptions", x, id, "NONE");
+            due.told("16: no subscriptions", x, id, "NONE");
             due.same("16: open", x.open(id), 0);
             due.same("16: cancel", x.cancel(id), false);
             due.same("16: request", x.request(id, 1), false);
@@ -661,7 +657,7 @@ public final class PromisesTest {
         due.same("16: and their number", x.stage(2, 0, 0), 5);
         x.request(1, 5);
         x.advance(9);
-        told("16: what was on the way is gone", x, 1, "ACTIVE +0/5");
+        due.told("16: what was on the way is gone", x, 1, "ACTIVE +0/5");
         due.same("16: all of the time again", x.advance(191), 200);
         x.restart();
         x.restart();
@@ -684,28 +680,28 @@ public final class PromisesTest {
         for (int i = 0; i < 8; i++) {
             x.emit(0, i);
         }
-        told("terms: eight wait", x, 0, "ACTIVE +8/0");
+        due.told("terms: eight wait", x, 0, "ACTIVE +8/0");
         x.emit(0, 8);
-        told("terms: a ninth", x, 0, "FAILED 7");
+        due.told("terms: a ninth", x, 0, "FAILED 7");
         x.complete(0);
-        told("terms: nothing changes any more", x, 0, "FAILED 7");
+        due.told("terms: nothing changes any more", x, 0, "FAILED 7");
         x.restart();
         x.subscribe(0, 0);
         for (int i = 0; i < 8; i++) {
             x.emit(0, i);
         }
         x.complete(0);
-        told("terms: an end may come behind eight", x, 0, "ACTIVE +8/0");
+        due.told("terms: an end may come behind eight", x, 0, "ACTIVE +8/0");
         x.request(0, 7);
-        told("terms: not yet", x, 0, "ACTIVE 0:0 0:1 0:2 0:3 0:4 0:5 0:6 +1/0");
+        due.told("terms: not yet", x, 0, "ACTIVE 0:0 0:1 0:2 0:3 0:4 0:5 0:6 +1/0");
         x.request(0, 7);
-        told("terms: now", x, 0, "DONE 0:0 0:1 0:2 0:3 0:4 0:5 0:6 0:7");
+        due.told("terms: now", x, 0, "DONE 0:0 0:1 0:2 0:3 0:4 0:5 0:6 0:7");
         x.restart();
         x.subscribe(0, 2);
         x.request(0, 1);
         x.advance(45);
-        told("terms: eight of an INTERVAL wait", x, 0, "ACTIVE 5:0 +8/0");
+        due.told("terms: eight of an INTERVAL wait", x, 0, "ACTIVE 5:0 +8/0");
         x.advance(5);
-        told("terms: a ninth by a timer", x, 0, "FAILED 7 5:0");
+        due.told("terms: a ninth by a timer", x, 0, "FAILED 7 5:0");
     }
 }

@@ -5,6 +5,7 @@ public final class TermsEdgesTest {
     private static final int BAD = TimedStreams.BAD, FULL = TimedStreams.FULL;
 
     public static void main(String[] args) {
+        calls();
         time();
         timersBeforeCalls();
         timersByPart();
@@ -27,6 +28,25 @@ public final class TermsEdgesTest {
         openActive();
         openUsers();
         due.end();
+    }
+
+    private static void calls() {
+        due.sentence("An object is used for at most 512 calls after it has been made");
+        TimedStreams x = Made.stages();
+        int made = 3;
+        while (made < 506) {
+            x.subscribe(2, 2);
+            x.request(2, ENDLESS);
+            x.advance(200);
+            x.emit(0, 1);
+            x.restart();
+            made += 5;
+        }
+        due.same("made so far", made, 508);
+        x.subscribe(2, 2);
+        x.request(2, ENDLESS);
+        x.advance(200);
+        due.same("the 512th", x.item(2, 0), (200L << 32) + 39);
     }
 
     private static void time() {
@@ -185,7 +205,8 @@ public final class TermsEdgesTest {
     }
 
     private static void lastPart() {
-        due.sentence("THE PARTS of a stage are those of its stages a and b, as far as they are stages (those of a first), and it itself");
+        due.sentence("THE PARTS of a stage are those of its stages a and b, as far as they are stages (those of a first),"
+                + " and it itself");
         TimedStreams x = chain(7);
         x.stage(11, 9, 3);
         TimedStreams y = chain(6);
